@@ -547,7 +547,7 @@ public final class ShapeDuel {
             a = b;
             b = rest;
         }
-        return a;
+        return Math.max(a, 1);
     }
 
     private int layAnew(Strip[] strips, int s, int n, int value) {
